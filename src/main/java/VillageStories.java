@@ -1135,7 +1135,6 @@ public final class VillageStories {
                 case Text.MOST:
                     return counted(part, depth);
                 case Text.NOT:
-                    return ~judged(part + 1, depth + 1);
                 case Text.AND:
                 case Text.OR:
                 case Text.IF:
@@ -1161,11 +1160,16 @@ public final class VillageStories {
             }
             long one = judged(part + 1, depth + 1);
             int other = text.behind[part + 1];
-            if (text.word[part] == Text.AND) {
-                return one == 0 ? 0 : one & judged(other, depth + 1);
+            switch (text.word[part]) {
+                case Text.NOT:
+                    return ~one;
+                case Text.AND:
+                    return one == 0 ? 0 : one & judged(other, depth + 1);
+                case Text.OR:
+                    return one == -1L ? -1L : one | judged(other, depth + 1);
+                default:
+                    return one == 0 ? -1L : ~one | judged(other, depth + 1);
             }
-            long either = text.word[part] == Text.IF ? ~one : one;
-            return either == -1L ? -1L : either | judged(other, depth + 1);
         }
 
         private long counted(int part, int depth) {
@@ -1755,7 +1759,7 @@ public final class VillageStories {
             }
             int all = takeAsked();
             for (int questions = 0; questions <= QUESTIONS; questions++) {
-                if (suffice(all, questions)) {
+                if (suffice(asked, all, questions)) {
                     return questions;
                 }
             }
@@ -1781,19 +1785,19 @@ public final class VillageStories {
             return all;
         }
 
-        /** Calls itself with one question less, four at most. */
-        private boolean suffice(int left, int questions) {
+        /** Whether so many questions leave one world at most; it calls itself with one less. */
+        private static boolean suffice(int[] asked, int left, int questions) {
             if (Integer.bitCount(left) <= 1) {
                 return true;
             }
             if (questions <= 0 || Integer.bitCount(left) > 1 << questions) {
                 return false;
             }
-            for (int place = 0; place < told.shape.facts && place < MOST_FACTS; place++) {
+            for (int place = 0; place < asked.length; place++) {
                 int yes = left & asked[place];
                 int no = left & ~asked[place];
                 boolean isHelp = yes != 0 && no != 0;
-                if (isHelp && suffice(yes, questions - 1) && suffice(no, questions - 1)) {
+                if (isHelp && suffice(asked, yes, questions - 1) && suffice(asked, no, questions - 1)) {
                     return true;
                 }
             }

@@ -1,3 +1,5 @@
+import java.lang.reflect.Method;
+import java.lang.reflect.Modifier;
 import java.util.ArrayList;
 import java.util.List;
 import java.util.Random;
@@ -244,8 +246,8 @@ public final class OracleTest {
             dearLeft--;
         }
         calls++;
-        long got = askProgram(call, a);
-        long want = askOracle(call, a);
+        long got = answer(program, call, a);
+        long want = answer(oracle, call, a);
         StringBuilder line = new StringBuilder(call).append('(');
         for (int at = 0; at < a.length; at++) {
             line.append(at == 0 ? "" : ", ").append(a[at]);
@@ -259,91 +261,23 @@ public final class OracleTest {
         return got;
     }
 
-    private static long as(boolean is) {
-        return is ? 1 : 0;
-    }
-
-    private long askProgram(String call, int[] a) {
-        VillageStories x = program;
-        switch (call) {
-            case "size": return as(x.size(a[0], a[1]));
-            case "relation": return x.relation(a[0], a[1]);
-            case "facts": return x.facts();
-            case "tell": return as(x.tell(a[0], a[1], a[2], a[3] == 1));
-            case "fact": return x.fact(a[0], a[1], a[2]);
-            case "known": return as(x.known(a[0], a[1], a[2], a[3] == 1));
-            case "keep": return as(x.keep(a[0]));
-            case "apart": return x.apart(a[0]);
-            case "feed": return x.feed(a[0], a[1], a[2], a[3], a[4]);
-            case "end": return x.end(a[0]);
-            case "story": return x.story();
-            case "guess": return x.guess();
-            case "fault": return x.fault(a[0]);
-            case "strike": return as(x.strike(a[0]));
-            case "day": return as(x.day(a[0]));
-            case "view": return as(x.view(a[0]));
-            case "so": return x.so(a[0]);
-            case "breaks": return x.breaks(a[0], a[1]);
-            case "worlds": return x.worlds();
-            case "forms": return x.forms();
-            case "form": return as(x.form(a[0]));
-            case "name": return as(x.name());
-            case "least": return x.least(a[0]);
-            case "core": return x.core(a[0]);
-            case "sure": return x.sure(a[0], a[1], a[2]);
-            case "cause": return x.cause(a[0], a[1], a[2], a[3]);
-            case "without": return x.without(a[0]);
-            case "questions": return x.questions();
-            case "settle": return x.settle(a[0]);
-            case "near": return x.near();
-            case "holds": return x.holds(a[0]);
-            case "against": return as(x.against());
-            case "many": return x.many(a[0]);
-            case "image": return as(x.image(a[0]));
-            case "again": return as(x.again(a[0]));
-            default: throw new IllegalArgumentException(call);
+    /** The program and the oracle have methods of the same names and parameters. */
+    private static long answer(Object village, String call, int[] arguments) {
+        for (Method method : village.getClass().getDeclaredMethods()) {
+            if (method.getName().equals(call) && !Modifier.isPrivate(method.getModifiers())) {
+                Class<?>[] types = method.getParameterTypes();
+                Object[] given = new Object[types.length];
+                for (int at = 0; at < types.length; at++) {
+                    given[at] = types[at] == boolean.class ? (Object) (arguments[at] == 1) : (Object) arguments[at];
+                }
+                try {
+                    Object answer = method.invoke(village, given);
+                    return answer instanceof Boolean is ? is ? 1 : 0 : (Integer) answer;
+                } catch (ReflectiveOperationException thrown) {
+                    throw new IllegalStateException(call, thrown);
+                }
+            }
         }
-    }
-
-    private long askOracle(String call, int[] a) {
-        Oracle x = oracle;
-        switch (call) {
-            case "size": return as(x.size(a[0], a[1]));
-            case "relation": return x.relation(a[0], a[1]);
-            case "facts": return x.facts();
-            case "tell": return as(x.tell(a[0], a[1], a[2], a[3] == 1));
-            case "fact": return x.fact(a[0], a[1], a[2]);
-            case "known": return as(x.known(a[0], a[1], a[2], a[3] == 1));
-            case "keep": return as(x.keep(a[0]));
-            case "apart": return x.apart(a[0]);
-            case "feed": return x.feed(a[0], a[1], a[2], a[3], a[4]);
-            case "end": return x.end(a[0]);
-            case "story": return x.story();
-            case "guess": return x.guess();
-            case "fault": return x.fault(a[0]);
-            case "strike": return as(x.strike(a[0]));
-            case "day": return as(x.day(a[0]));
-            case "view": return as(x.view(a[0]));
-            case "so": return x.so(a[0]);
-            case "breaks": return x.breaks(a[0], a[1]);
-            case "worlds": return x.worlds();
-            case "forms": return x.forms();
-            case "form": return as(x.form(a[0]));
-            case "name": return as(x.name());
-            case "least": return x.least(a[0]);
-            case "core": return x.core(a[0]);
-            case "sure": return x.sure(a[0], a[1], a[2]);
-            case "cause": return x.cause(a[0], a[1], a[2], a[3]);
-            case "without": return x.without(a[0]);
-            case "questions": return x.questions();
-            case "settle": return x.settle(a[0]);
-            case "near": return x.near();
-            case "holds": return x.holds(a[0]);
-            case "against": return as(x.against());
-            case "many": return x.many(a[0]);
-            case "image": return as(x.image(a[0]));
-            case "again": return as(x.again(a[0]));
-            default: throw new IllegalArgumentException(call);
-        }
+        throw new IllegalArgumentException(call);
     }
 }

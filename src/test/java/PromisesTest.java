@@ -369,7 +369,19 @@ public final class PromisesTest {
         }
         due("feed behind seven", x.feed(1, 2, 3, 4, 5), 27);
         x.end(0);
-        due("end(0)", x.end(1), NONE);
+        due("end(1) of none", x.end(1), NONE);
+        // What was behind the end is on the tape no more.
+        x.relation(0, 0);
+        Tape.put(x, "least 12");
+        x.end(7);
+        due("guess", x.guess(), NONE);
+        due("fault(1)", x.fault(1), 7);
+        Tape.put(x, "tree rr");
+        x.end(6);
+        due("guess", x.guess(), 1);
+        Tape.put(x, "tree r tree");
+        x.end(6);
+        due("guess", x.guess(), 1);
     }
 
     private static void story() {
