@@ -891,6 +891,21 @@ public final class LimitsTest {
         due("without a struck one", x.core(1), 4);
         x.strike(4);
         due("there is a world", x.core(0), NONE);
+        // The row 0, 3 is less than the row 1, 2.
+        VillageStories y = threeFacts();
+        Tape.story(y, "all x man r x");
+        Tape.story(y, "all x house s x");
+        Tape.story(y, "all x house not s x");
+        Tape.story(y, "all x man not r x");
+        due("the least row", y.core(0), 0);
+        due("the least row", y.core(1), 3);
+        due("the least row", y.core(2), NONE);
+        Tape.story(y, "all x day t x");
+        Tape.story(y, "all x day not t x");
+        due("the least row still", y.core(1), 3);
+        y.strike(0);
+        due("the next row", y.core(0), 1);
+        due("the next row", y.core(1), 2);
     }
 
     // ---- "CAUSE of it: the fewest of the STORIES ..; of several the least row"
@@ -925,6 +940,19 @@ public final class LimitsTest {
             due("sure still", x.sure(0, 0, 0), left >> 2);
             due("by what is known", x.cause(0, 0, 0, 0), NONE);
         }
+        // The row 0, 3 is less than the row 1, 2.
+        VillageStories y = threeFacts();
+        Tape.story(y, "all x man r x");
+        Tape.story(y, "all x house s x");
+        Tape.story(y, "if some x house s x all x day t x");
+        Tape.story(y, "if some x man r x all x day t x");
+        due("sure", y.sure(2, 0, 0), 1);
+        due("the least row", y.cause(2, 0, 0, 0), 0);
+        due("the least row", y.cause(2, 0, 0, 1), 3);
+        due("the least row", y.cause(2, 0, 0, 2), NONE);
+        y.strike(3);
+        due("the next row", y.cause(2, 0, 0, 0), 1);
+        due("the next row", y.cause(2, 0, 0, 1), 2);
     }
 
     // ---- "SETTLE: .. is least; of several the first one"; "NONE: there are no WORLDS, or FACTS"
@@ -1109,6 +1137,50 @@ public final class LimitsTest {
         due("none is kept there", x.apart(0), NONE);
         due("no guess", x.many(9), 0);
         due("the tape", x.guess(), 2);
+        imagesThatPart();
+    }
+
+    /** From one image two ways part; each has what was told on it, at the same places of all rows. */
+    private static void imagesThatPart() {
+        VillageStories x = threeFacts();
+        x.image(0);
+        x.day(1);
+        Tape.story(x, "all x man r x");
+        x.known(1, 0, 0, true);
+        x.tell(0, 0, 0, true);
+        x.keep(1);
+        x.image(1);
+        x.again(0);
+        Tape.story(x, "all x day t x");
+        x.known(2, 0, 0, false);
+        x.keep(1);
+        x.strike(0);
+        x.day(3);
+        x.image(2);
+        for (int times = 0; times < 2; times++) {
+            x.again(1);
+            due("one way: worlds", x.worlds(), 2);
+            due("one way: sure by the story", x.cause(0, 0, 0, 0), 0);
+            due("one way: sure as it is known", x.sure(1, 0, 0), 1);
+            due("one way: not sure", x.sure(2, 0, 0), NONE);
+            due("one way: the kept one", x.apart(1), 0);
+            x.view(0);
+            due("one way: told later", x.many(7), 0);
+            due("one way: known later", x.worlds(), 8);
+            x.again(2);
+            due("the other: worlds", x.worlds(), 4);
+            due("the other: not sure", x.sure(1, 0, 0), NONE);
+            due("the other: sure as it is known", x.sure(2, 0, 0), 0);
+            due("the other: the kept one", x.apart(1), 0);
+            due("the other: it is struck", x.strike(0), false);
+            x.tell(0, 0, 0, true);
+            due("the other: the kept one", x.apart(1), 1);
+            x.view(0);
+            due("the other: known by then", x.worlds(), 4);
+            x.again(0);
+            due("before: worlds", x.worlds(), 8);
+            due("before: none is kept", x.apart(1), NONE);
+        }
     }
 
     // ---- "An object is used for at most 512 calls after it has been made"
