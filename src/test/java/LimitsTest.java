@@ -12,6 +12,7 @@ public final class LimitsTest {
     public static void main(String[] args) {
         sizes();
         sizesOfTexts();
+        joined();
         noRelation();
         fourRelations();
         relationsOfAllKinds();
@@ -145,6 +146,47 @@ public final class LimitsTest {
                     dueSo(x, "most 9999" + what, true);
                 }
             }
+        }
+    }
+
+    /** What joins two that are so each in one world alone, whichever that is. */
+    private static void joined() {
+        for (int world = 0; world < 64; world++) {
+            VillageStories x = sized(3, 1, 3);
+            x.relation(0, NONE);
+            x.relation(2, NONE);
+            for (int bit = 0; bit < 6; bit++) {
+                boolean is = (world >> bit & 1) == 1;
+                x.known(bit / 3, bit % 3, 0, is);
+                x.tell(bit / 3, bit % 3, 0, is);
+            }
+            String men = "least " + Integer.bitCount(world & 7) + " x man r x";
+            String fewer = "most " + Integer.bitCount(world & 7) + " x man r x";
+            String never = "some x day not same x x";
+            String always = "all x day same x x";
+            String[] texts = {"and " + men + " " + fewer, "and " + men + " " + never, "and " + never + " " + men,
+                "or " + men + " " + never, "or " + never + " " + fewer, "if " + men + " " + fewer,
+                "if " + men + " " + never, "if " + never + " " + never, "if " + always + " " + fewer, "not " + men,
+                "not and " + always + " " + fewer, "not or " + never + " " + never};
+            int[] want = {1, 0, 0, 1, 1, 1, 0, 1, 1, 0, 0, 1};
+            for (int at = 0; at < texts.length; at++) {
+                Tape.guess(x, texts[at]);
+                due("so '" + texts[at] + "' in world " + world, x.so(NONE), want[at]);
+                due("holds of '" + texts[at] + "' in world " + world, x.holds(0), want[at]);
+            }
+        }
+        // All six not so, or all six so: one world of 64, first and second.
+        VillageStories x = sized(3, 2, 1);
+        x.relation(0, 1);
+        String none = "all x man all y house not r x y";
+        String all = "all x man all y house r x y";
+        String[] texts = {none, all, "and " + none + " " + none, "and " + all + " " + all, "and " + none + " " + all,
+            "or " + none + " " + all, "if " + none + " " + all, "if " + all + " " + none, "if " + none + " " + none,
+            "if or " + none + " " + all + " " + none, "and not " + none + " not " + all};
+        int[] worlds = {1, 1, 1, 1, 0, 2, 63, 63, 64, 63, 62};
+        for (int at = 0; at < texts.length; at++) {
+            Tape.guess(x, texts[at]);
+            due("holds of '" + texts[at] + "'", x.holds(0), worlds[at]);
         }
     }
 
@@ -653,6 +695,32 @@ public final class LimitsTest {
         Tape.story(x, "all x man not r x");
         due("strike one that the view has not", x.strike(4), true);
         due("it is struck now", x.strike(4), false);
+        viewsAskedInAnyOrder();
+    }
+
+    /** A later view is asked before an earlier one, a guess before a story that is told later. */
+    private static void viewsAskedInAnyOrder() {
+        VillageStories x = threeFacts();
+        Tape.story(x, "all x man r x");
+        x.day(1);
+        x.strike(0);
+        Tape.story(x, "all x house s x");
+        due("now", x.worlds(), 4);
+        due("now", x.sure(0, 0, 0), NONE);
+        due("now", x.sure(1, 0, 0), 1);
+        x.view(0);
+        due("on day 0", x.worlds(), 4);
+        due("on day 0", x.sure(0, 0, 0), 1);
+        due("on day 0", x.sure(1, 0, 0), NONE);
+        VillageStories y = threeFacts();
+        for (int story = 0; story < 7; story++) {
+            Tape.story(y, "all x man r x");
+        }
+        Tape.guess(y, "all x house s x");
+        due("of seven stories", y.holds(0), 2);
+        Tape.story(y, "all x day t x");
+        due("of eight stories", y.holds(0), 1);
+        due("of eight stories", y.worlds(), 2);
     }
 
     // ---- "A STORY BREAKS at the least row of those that its first VARS are, .. as many as it begins with all"
@@ -812,6 +880,24 @@ public final class LimitsTest {
             due("name", y.name(), !isLeast);
             due("as many", y.many(8), Integer.bitCount(row));
             due("the last house", y.fact(0, 2, 0), row == 0 ? 0 : 1);
+        }
+        // One alone has no other number, whatever the others have.
+        for (int size = 1; size <= 3; size++) {
+            VillageStories z = sized(1, size, 1);
+            for (int kind = 0; kind < 3; kind++) {
+                z.relation(kind, NONE);
+            }
+            z.tell(0, 0, 0, true);
+            z.tell(1, 0, 0, true);
+            z.tell(2, 0, 0, true);
+            due("name", z.name(), size > 1);
+            due("the man", z.fact(0, 0, 0), 1);
+            due("the last house", z.fact(1, size - 1, 0), 1);
+            due("the day", z.fact(2, 0, 0), 1);
+            due("as many", z.many(8), 3);
+            z.keep(0);
+            z.tell(0, 0, 0, false);
+            due("apart by the man", z.apart(0), 1);
         }
     }
 
@@ -1044,6 +1130,20 @@ public final class LimitsTest {
             due("worlds", y.worlds(), worlds);
             due("one of " + worlds, y.questions(), wanted[worlds]);
         }
+        // What was asked before counts for nothing.
+        VillageStories z = sized(3, 2, 2);
+        z.relation(0, 1);
+        z.image(0);
+        for (int place = 2; place < 6; place++) {
+            z.known(0, place / 2, place % 2, true);
+        }
+        due("four worlds", z.questions(), 2);
+        z.again(0);
+        z.known(0, 0, 0, false);
+        z.known(0, 0, 1, false);
+        Tape.story(z, "some x man some y house and r x y all z man all w house if r z w and same x z same y w");
+        due("four worlds", z.worlds(), 4);
+        due("one of four", z.questions(), 3);
     }
 
     // ---- "APART: in how few FACTS THE WORLD at hand differs from one that a kept one is by other numbers"
