@@ -1010,7 +1010,7 @@ public final class VillageStories {
                 token = END;
             } else if (isLetter(next)) {
                 token = WORD;
-                while (isLetter(next)) {
+                while (next < length && isLetter(next)) {
                     next++;
                 }
             } else if (isDigit(next)) {
@@ -1062,7 +1062,10 @@ public final class VillageStories {
         /** By place: the worlds in which the FACT there is so. */
         private final long[] facts = new long[ALL_FACTS];
         private final int[] chosen = new int[BINDERS];
-        private final long[] paths = new long[MOST_SIZE * MOST_SIZE];
+        /** By place: the worlds in which the second one of the FACT there is reached from the first. */
+        private final long[] paths = new long[ALL_FACTS];
+        /** RELATIONS whose paths are found, as bits: one text may ask for them hundreds of times. */
+        private int pathed = 0;
 
         boolean isSoIn(Shape its, Text read, long world) {
             takeWorld(its, read, world);
@@ -1073,6 +1076,7 @@ public final class VillageStories {
         long soInWord(Shape its, Text read, int word) {
             shape = its;
             text = read;
+            pathed = 0;
             for (int place = 0; place < shape.facts && place < ALL_FACTS; place++) {
                 facts[place] = WorldSet.soAt(shape.bit(place), word);
             }
@@ -1082,6 +1086,7 @@ public final class VillageStories {
         private void takeWorld(Shape its, Text read, long world) {
             shape = its;
             text = read;
+            pathed = 0;
             for (int place = 0; place < shape.facts && place < ALL_FACTS; place++) {
                 facts[place] = (world >> shape.bit(place) & 1) == 0 ? 0 : -1L;
             }
@@ -1224,42 +1229,44 @@ public final class VillageStories {
             if (!shape.isOfOneKindTwice(relation)) {
                 return 0;
             }
-            takePaths(relation);
-            int at = from * shape.width[relation] + to;
-            return at >= 0 && at < paths.length ? paths[at] : 0;
+            findPaths(relation);
+            int place = shape.place(relation, from, to);
+            return place >= 0 && place < ALL_FACTS ? paths[place] : 0;
         }
 
         private long treeLike(int relation) {
             if (!shape.isOfOneKindTwice(relation)) {
                 return 0;
             }
+            findPaths(relation);
+            int start = shape.start[relation];
             int size = shape.width[relation];
             long bad = 0;
             for (int i = 0; i < size; i++) {
                 long taken = 0;
                 for (int j = 0; j < size; j++) {
-                    long now = facts[shape.start[relation] + i * size + j];
+                    long now = facts[start + i * size + j];
                     bad |= taken & now;
                     taken |= now;
                 }
-            }
-            takePaths(relation);
-            for (int i = 0; i < size; i++) {
-                bad |= paths[i * size + i];
+                bad |= paths[start + i * size + i];
             }
             return ~bad;
         }
 
-        /** From each one of a KIND to each: the worlds in which it is reached. */
-        private void takePaths(int relation) {
-            int size = shape.width[relation];
-            for (int at = 0; at < size * size; at++) {
-                paths[at] = facts[shape.start[relation] + at];
+        private void findPaths(int relation) {
+            if ((pathed >> relation & 1) != 0) {
+                return;
             }
+            pathed |= 1 << relation;
+            int start = shape.start[relation];
+            int size = shape.width[relation];
+            System.arraycopy(facts, start, paths, start, size * size);
             for (int by = 0; by < size; by++) {
                 for (int i = 0; i < size; i++) {
+                    long there = paths[start + i * size + by];
                     for (int j = 0; j < size; j++) {
-                        paths[i * size + j] |= paths[i * size + by] & paths[by * size + j];
+                        paths[start + i * size + j] |= there & paths[start + by * size + j];
                     }
                 }
             }

@@ -37,6 +37,7 @@ public final class LanguageTest {
         String code = withoutComments(source);
         words(code);
         methods(code);
+        loops(code);
         CHECK.finish();
     }
 
@@ -159,5 +160,18 @@ public final class LanguageTest {
                 CHECK.due(lines[from].trim() + " is of some sixty lines", to - from <= MOST_LINES, true);
             }
         }
+    }
+
+    /** Rule 9: a loop's own line compares what it counts with its bound. */
+    private static void loops(String code) {
+        CHECK.due("a do loop", Pattern.compile("\\bdo\\b").matcher(code).find(), false);
+        int loops = 0;
+        for (String line : code.split("\n")) {
+            if (Pattern.compile("\\b(for|while) \\(").matcher(line).find()) {
+                loops++;
+                CHECK.due(line.trim() + " has an end", Pattern.compile(" [<>]=? ").matcher(line).find(), true);
+            }
+        }
+        CHECK.due("loops are found", loops > 50, true);
     }
 }

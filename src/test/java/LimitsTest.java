@@ -24,6 +24,7 @@ public final class LimitsTest {
         knownOfFactsThatAreNot();
         knownByDays();
         trees();
+        treesOfFour();
         eightStories();
         days();
         views();
@@ -581,6 +582,50 @@ public final class LimitsTest {
         due("two first ones", x.so(NONE), 1);
         x.tell(0, 0, 0, true);
         due("itself", x.so(NONE), 0);
+    }
+
+    /** Four relations of men: each has its own ways, whatever is asked before it, and of whatever world. */
+    private static void treesOfFour() {
+        VillageStories x = sized(3, 2, 2);
+        String[] names = {"r", "s", "t", "u"};
+        for (int relation = 0; relation < 4; relation++) {
+            x.relation(0, 0);
+        }
+        for (int walked = 0; walked < 4; walked++) {
+            x.tell(walked, 2, 1, true);
+            x.tell(walked, 1, 0, true);
+            for (int one = 0; one < 4; one++) {
+                for (int other = 0; other < 4; other++) {
+                    Tape.guess(x, "some x man some y man and reach " + names[one] + " x y not reach " + names[other] + " x y");
+                    due("a way by " + names[one] + " alone", x.so(NONE), one == walked && other != walked ? 1 : 0);
+                    Tape.guess(x, "or not tree " + names[one] + " some x man reach " + names[other] + " x x");
+                    due("no tree, or a round", x.so(NONE), 0);
+                }
+            }
+            x.tell(walked, 0, 2, true);
+            for (int one = 0; one < 4; one++) {
+                for (int other = 0; other < 4; other++) {
+                    Tape.guess(x, "and tree " + names[one] + " not tree " + names[other]);
+                    due("a tree, and no tree", x.so(NONE), one != walked && other == walked ? 1 : 0);
+                }
+            }
+            x.tell(walked, 2, 1, false);
+            x.tell(walked, 1, 0, false);
+            x.tell(walked, 0, 2, false);
+        }
+        // Of two each: a tree of three, and one that is no tree, of sixteen; all of both in one text.
+        VillageStories y = sized(2, 2, 2);
+        y.relation(0, 0);
+        y.relation(1, 1);
+        y.relation(0, 0);
+        Tape.guess(y, "and tree r not tree s");
+        due("holds", y.holds(0), 3 * 13 * 16);
+        y.size(0, 1);
+        y.size(1, 3);
+        due("holds", y.holds(0), (512 - 16) * 2);
+        Tape.guess(y, "all x house all y house if reach s x y s x y");
+        // Those of three that hold all that is reached: as many as there are transitive ones.
+        due("holds", y.holds(0), 171 * 4);
     }
 
     // ---- "STORIES, at most 8, from 0 on"
